@@ -167,6 +167,9 @@ public final class PromiseTest {
             Check.due("P6 treesWithBoth same " + line, x.treesWithBoth(line, line), -1);
             Check.due("P6 not there and " + line, x.treesWithBoth(9, line), -1);
         }
+        x.draw(9, 3, 0);
+        Check.due("P6 with line 9", x.treesWithBoth(9, 1), 4);
+        Check.due("P6 same line 9", x.treesWithBoth(9, 9), 8);
         Check.due("P6 two points", graph(2, 0, 1, 0, 1).treesWithBoth(0, 1), 0);
     }
 
@@ -286,6 +289,13 @@ public final class PromiseTest {
         x.mark(1);
         markAll(x, 8);
         Check.due("P11 a line that is not there", x.extensions(), 0);
+        x.mark(8);
+        x.mark(0);
+        x.mark(3);
+        x.draw(9, 3, 1);
+        Check.due("P11 with line 9 unmarked", x.extensions(), 8);
+        markAll(x, 9);
+        Check.due("P11 with line 9 marked", x.extensions(), 4);
         TreeRanker one = new TreeRanker(1);
         Check.due("P11 one point", one.extensions(), 1);
         one.mark(9);
