@@ -2,15 +2,21 @@
 final class Check {
     private static int looked = 0;
     private static int wrong = 0;
+    private static String sentence = "";
 
     private Check() {
+    }
+
+    /** What follows tests this sentence of the document; wrong answers are printed with it. */
+    static void sentence(String next) {
+        sentence = "[" + next + "] ";
     }
 
     static void due(String what, Object got, Object want) {
         looked++;
         if (!want.equals(got)) {
             wrong++;
-            System.out.println(what + " answered " + got + ", due is " + want);
+            System.out.println(sentence + what + " answered " + got + ", due is " + want);
         }
     }
 

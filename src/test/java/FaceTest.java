@@ -24,6 +24,7 @@ public final class FaceTest {
         classAndConstructor();
         methods();
         fields();
+        arrays();
         words();
         Check.end();
     }
@@ -76,9 +77,22 @@ public final class FaceTest {
         }
     }
 
-    private static void words() throws IOException {
+    private static String code() throws IOException {
         String source = Files.readString(Path.of("src/main/java/TreeRanker.java"));
-        String code = source.replaceAll("(?s)/\\*.*?\\*/", " ").replaceAll("//[^\n]*", " ");
+        return source.replaceAll("(?s)/\\*.*?\\*/", " ").replaceAll("//[^\n]*", " ");
+    }
+
+    private static void arrays() throws IOException {
+        Pattern made = Pattern.compile(" *private final int\\[\\] \\w+ = new int\\[([A-Z_]+|[1-9][0-9]*)\\];");
+        for (String line : code().split("\n")) {
+            if (Pattern.compile("\\bnew\\b").matcher(line).find()) {
+                Check.due("array made as a field:" + line, made.matcher(line).matches(), true);
+            }
+        }
+    }
+
+    private static void words() throws IOException {
+        String code = code();
         for (String word : WORDS_LEFT_OUT) {
             String edge = Character.isLetter(word.charAt(0)) ? "\\b" : "";
             boolean used = Pattern.compile(edge + Pattern.quote(word) + edge).matcher(code).find();

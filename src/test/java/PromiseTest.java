@@ -3,8 +3,6 @@ import static java.lang.Integer.MIN_VALUE;
 
 /** Each promise of the document by hand: ordinary inputs, the edges that the document names, wrong inputs. */
 public final class PromiseTest {
-    private static final int[] WRONG_LINES = {-1, 10, 11, 31, 32, 33, 42, -32, -10, MIN_VALUE, MAX_VALUE};
-
     public static void main(String[] args) {
         pointsAreClampedToOneToSix();
         newObjectIsEmpty();
@@ -22,25 +20,6 @@ public final class PromiseTest {
         refusalsChangeNothing();
         objectsAreApart();
         Check.end();
-    }
-
-    private static TreeRanker triangle() {
-        return graph(3, 0, 1, 1, 2, 2, 0);
-    }
-
-    /** Lines 0, 1, .. join the pairs of ends in turn. */
-    private static TreeRanker graph(int points, int... ends) {
-        TreeRanker x = new TreeRanker(points);
-        for (int i = 0; i + 1 < ends.length; i += 2) {
-            Check.due("draw in graph", x.draw(i / 2, ends[i], ends[i + 1]), 0);
-        }
-        return x;
-    }
-
-    private static void markAll(TreeRanker x, int... lines) {
-        for (int line : lines) {
-            Check.due("mark " + line, x.mark(line), 1);
-        }
     }
 
     private static void pointsAreClampedToOneToSix() {
@@ -76,7 +55,7 @@ public final class PromiseTest {
     }
 
     private static void drawReplacesAndRefuses() {
-        TreeRanker x = graph(3, 0, 1, 0, 1);
+        TreeRanker x = Graphs.graph(3, 0, 1, 0, 1);
         Check.due("P2 not joined", x.trees(), 0);
         Check.due("P2 draw again", x.draw(1, 2, 1), 0);
         Check.due("P2 joined", x.trees(), 1);
@@ -84,7 +63,7 @@ public final class PromiseTest {
         Check.due("P2 still joined", x.trees(), 1);
         Check.due("P2 line 9", x.draw(9, 2, 0), 0);
         Check.due("P2 with line 9", x.trees(), 3);
-        for (int line : WRONG_LINES) {
+        for (int line : Wrong.LINES) {
             Check.due("P2 draw line " + line, x.draw(line, 0, 1), -1);
         }
         for (int point : new int[] {-1, 3, 4, 5, 6, MIN_VALUE, MAX_VALUE}) {
@@ -100,14 +79,14 @@ public final class PromiseTest {
     }
 
     private static void cutTakesALineAway() {
-        TreeRanker x = triangle();
+        TreeRanker x = Graphs.triangle();
         x.draw(9, 0, 1);
         Check.due("P3 before", x.trees(), 5);
         Check.due("P3 cut 9", x.cut(9), 1);
         Check.due("P3 cut 9 again", x.cut(9), 0);
         Check.due("P3 after", x.trees(), 3);
         Check.due("P3 cut 8, never there", x.cut(8), 0);
-        for (int line : WRONG_LINES) {
+        for (int line : Wrong.LINES) {
             Check.due("P3 cut " + line, x.cut(line), -1);
         }
         Check.due("P3 nothing changed", x.trees(), 3);
@@ -120,25 +99,24 @@ public final class PromiseTest {
 
     private static void treesAreCounted() {
         Check.due("P4 one point", new TreeRanker(1).trees(), 1);
-        Check.due("P4 triangle", triangle().trees(), 3);
-        Check.due("P4 ten lines side by side",
-                graph(2, 0, 1, 1, 0, 0, 1, 1, 0, 0, 1, 1, 0, 0, 1, 1, 0, 0, 1, 1, 0).trees(), 10);
-        Check.due("P4 all pairs of 5",
-                graph(5, 0, 1, 0, 2, 0, 3, 0, 4, 1, 2, 1, 3, 1, 4, 2, 3, 2, 4, 3, 4).trees(), 125);
-        Check.due("P4 three by three", graph(6, 0, 3, 0, 4, 0, 5, 1, 3, 1, 4, 1, 5, 2, 3, 2, 4, 2, 5).trees(), 81);
-        Check.due("P4 ring of 6", graph(6, 0, 1, 1, 2, 2, 3, 3, 4, 4, 5, 5, 0).trees(), 6);
-        Check.due("P4 n-1 lines with a ring", graph(4, 0, 1, 1, 2, 2, 0).trees(), 0);
-        Check.due("P4 two triangles apart", graph(6, 0, 1, 1, 2, 2, 0, 3, 4, 4, 5, 5, 3).trees(), 0);
-        Check.due("P4 a point alone", graph(5, 0, 1, 1, 2, 2, 3, 3, 0, 0, 2, 1, 3).trees(), 0);
+        Check.due("P4 triangle", Graphs.triangle().trees(), 3);
+        Check.due("P4 ten lines side by side", Graphs.bundle().trees(), 10);
+        Check.due("P4 all pairs of 5", Graphs.allPairsOfFive().trees(), 125);
+        Check.due("P4 three by three",
+                Graphs.graph(6, 0, 3, 0, 4, 0, 5, 1, 3, 1, 4, 1, 5, 2, 3, 2, 4, 2, 5).trees(), 81);
+        Check.due("P4 ring of 6", Graphs.graph(6, 0, 1, 1, 2, 2, 3, 3, 4, 4, 5, 5, 0).trees(), 6);
+        Check.due("P4 n-1 lines with a ring", Graphs.graph(4, 0, 1, 1, 2, 2, 0).trees(), 0);
+        Check.due("P4 two triangles apart", Graphs.graph(6, 0, 1, 1, 2, 2, 0, 3, 4, 4, 5, 5, 3).trees(), 0);
+        Check.due("P4 a point alone", Graphs.graph(5, 0, 1, 1, 2, 2, 3, 3, 0, 0, 2, 1, 3).trees(), 0);
     }
 
     private static void treesWithALine() {
-        TreeRanker x = graph(4, 0, 1, 1, 2, 2, 0, 2, 3);
+        TreeRanker x = Graphs.graph(4, 0, 1, 1, 2, 2, 0, 2, 3);
         Check.due("P5 line of the ring", x.treesWith(0), 2);
         Check.due("P5 bridge", x.treesWith(3), 3);
         Check.due("P5 not there", x.treesWith(4), 0);
         Check.due("P5 line 9 not there", x.treesWith(9), 0);
-        for (int line : WRONG_LINES) {
+        for (int line : Wrong.LINES) {
             Check.due("P5 treesWith " + line, x.treesWith(line), -1);
         }
         x.cut(0);
@@ -151,7 +129,7 @@ public final class PromiseTest {
     }
 
     private static void treesWithTwoLines() {
-        TreeRanker x = graph(4, 0, 1, 1, 2, 2, 0, 2, 3, 0, 1);
+        TreeRanker x = Graphs.graph(4, 0, 1, 1, 2, 2, 0, 2, 3, 0, 1);
         Check.due("P6 two of the ring", x.treesWithBoth(0, 1), 1);
         Check.due("P6 the other way round", x.treesWithBoth(1, 0), 1);
         Check.due("P6 side by side", x.treesWithBoth(0, 4), 0);
@@ -161,7 +139,7 @@ public final class PromiseTest {
         Check.due("P6 one not there", x.treesWithBoth(3, 5), 0);
         Check.due("P6 other not there", x.treesWithBoth(5, 3), 0);
         Check.due("P6 same line not there", x.treesWithBoth(9, 9), 0);
-        for (int line : WRONG_LINES) {
+        for (int line : Wrong.LINES) {
             Check.due("P6 treesWithBoth 3, " + line, x.treesWithBoth(3, line), -1);
             Check.due("P6 treesWithBoth 3 there, " + line, x.treesWithBoth(line, 3), -1);
             Check.due("P6 treesWithBoth same " + line, x.treesWithBoth(line, line), -1);
@@ -170,7 +148,7 @@ public final class PromiseTest {
         x.draw(9, 3, 0);
         Check.due("P6 with line 9", x.treesWithBoth(9, 1), 4);
         Check.due("P6 same line 9", x.treesWithBoth(9, 9), 8);
-        Check.due("P6 two points", graph(2, 0, 1, 0, 1).treesWithBoth(0, 1), 0);
+        Check.due("P6 two points", Graphs.graph(2, 0, 1, 0, 1).treesWithBoth(0, 1), 0);
     }
 
     private static void treesByRank() {
@@ -198,13 +176,13 @@ public final class PromiseTest {
             Check.due("P8 mark again", x.mark(line), 0);
             Check.due("P8 mark a third time", x.mark(line), 1);
         }
-        for (int line : WRONG_LINES) {
+        for (int line : Wrong.LINES) {
             Check.due("P8 mark " + line, x.mark(line), -1);
         }
         for (int line = 0; line < 10; line++) {
             Check.due("P8 unmark", x.mark(line), 0);
         }
-        markAll(x, 6);
+        Graphs.mark(x, 6);
         x.draw(6, 0, 1);
         Check.due("P8 mark stays on a line that is drawn", x.rank(), 0);
         x.cut(6);
@@ -215,25 +193,25 @@ public final class PromiseTest {
     }
 
     private static void rankOfTheMarkedSet() {
-        TreeRanker x = graph(4, 0, 1, 1, 2, 2, 0, 2, 3, 3, 0);
+        TreeRanker x = Graphs.graph(4, 0, 1, 1, 2, 2, 0, 2, 3, 3, 0);
         int trees = x.trees();
         Check.due("P9 trees", trees, 8);
         for (int rank = 0; rank < trees; rank++) {
             int set = x.tree(rank);
-            toggle(x, set);
+            Graphs.toggle(x, set);
             Check.due("P9 rank of " + set, x.rank(), rank);
-            toggle(x, set);
+            Graphs.toggle(x, set);
         }
         Check.due("P9 nothing marked", x.rank(), -1);
-        markAll(x, 0, 1);
+        Graphs.mark(x, 0, 1);
         Check.due("P9 too few", x.rank(), -1);
-        markAll(x, 2);
+        Graphs.mark(x, 2);
         Check.due("P9 a ring", x.rank(), -1);
-        markAll(x, 3);
+        Graphs.mark(x, 3);
         Check.due("P9 too many", x.rank(), -1);
         x.mark(2);
         Check.due("P9 a tree", x.rank(), 0);
-        markAll(x, 9);
+        Graphs.mark(x, 9);
         Check.due("P9 a tree and a line that is not there", x.rank(), -1);
         x.mark(9);
         x.cut(0);
@@ -244,23 +222,15 @@ public final class PromiseTest {
         Check.due("P9 one point and a mark", one.rank(), -1);
     }
 
-    private static void toggle(TreeRanker x, int set) {
-        for (int line = 0; line < 10; line++) {
-            if ((set >> line & 1) == 1) {
-                x.mark(line);
-            }
-        }
-    }
-
     private static void belowTheMarkedSet() {
-        TreeRanker x = triangle();
+        TreeRanker x = Graphs.triangle();
         int[] due = {0, 0, 0, 0, 1, 1, 2, 3};
         for (int set = 0; set < due.length; set++) {
-            toggle(x, set);
+            Graphs.toggle(x, set);
             Check.due("P10 below " + set, x.below(), due[set]);
-            toggle(x, set);
+            Graphs.toggle(x, set);
         }
-        markAll(x, 9);
+        Graphs.mark(x, 9);
         Check.due("P10 a line that is not there counts too", x.below(), 3);
         x.draw(9, 0, 1);
         Check.due("P10 now it is there", x.below(), 3);
@@ -276,25 +246,25 @@ public final class PromiseTest {
     }
 
     private static void extensionsOfTheMarkedSet() {
-        TreeRanker x = graph(4, 0, 1, 1, 2, 2, 0, 2, 3, 3, 0);
+        TreeRanker x = Graphs.graph(4, 0, 1, 1, 2, 2, 0, 2, 3, 3, 0);
         Check.due("P11 nothing marked", x.extensions(), 8);
-        markAll(x, 2);
+        Graphs.mark(x, 2);
         Check.due("P11 one", x.extensions(), 4);
-        markAll(x, 3);
+        Graphs.mark(x, 3);
         Check.due("P11 two", x.extensions(), 2);
-        markAll(x, 0);
+        Graphs.mark(x, 0);
         Check.due("P11 a tree", x.extensions(), 1);
-        markAll(x, 1);
+        Graphs.mark(x, 1);
         Check.due("P11 a ring", x.extensions(), 0);
         x.mark(1);
-        markAll(x, 8);
+        Graphs.mark(x, 8);
         Check.due("P11 a line that is not there", x.extensions(), 0);
         x.mark(8);
         x.mark(0);
         x.mark(3);
         x.draw(9, 3, 1);
         Check.due("P11 with line 9 unmarked", x.extensions(), 8);
-        markAll(x, 9);
+        Graphs.mark(x, 9);
         Check.due("P11 with line 9 marked", x.extensions(), 4);
         TreeRanker one = new TreeRanker(1);
         Check.due("P11 one point", one.extensions(), 1);
@@ -303,36 +273,34 @@ public final class PromiseTest {
     }
 
     private static void surplusOfTheMarkedSet() {
-        TreeRanker x = graph(6, 0, 1, 1, 2, 2, 0, 3, 4, 4, 5, 5, 3, 0, 1, 0, 3);
+        TreeRanker x = Graphs.graph(6, 0, 1, 1, 2, 2, 0, 3, 4, 4, 5, 5, 3, 0, 1, 0, 3);
         Check.due("P12 nothing marked", x.surplus(), 0);
-        markAll(x, 0, 1);
+        Graphs.mark(x, 0, 1);
         Check.due("P12 no ring", x.surplus(), 0);
-        markAll(x, 2);
+        Graphs.mark(x, 2);
         Check.due("P12 one ring", x.surplus(), 1);
-        markAll(x, 3, 4, 5);
+        Graphs.mark(x, 3, 4, 5);
         Check.due("P12 two rings apart", x.surplus(), 2);
-        markAll(x, 6);
+        Graphs.mark(x, 6);
         Check.due("P12 side by side is a ring", x.surplus(), 3);
-        markAll(x, 7);
+        Graphs.mark(x, 7);
         Check.due("P12 a bridge adds none", x.surplus(), 3);
-        markAll(x, 8, 9);
+        Graphs.mark(x, 8, 9);
         Check.due("P12 lines that are not there add none", x.surplus(), 3);
         x.cut(1);
         Check.due("P12 a line that is cut counts no longer", x.surplus(), 2);
         x.mark(6);
         Check.due("P12 a line without its mark counts no longer", x.surplus(), 1);
-        TreeRanker bundle = graph(2, 0, 1, 0, 1, 0, 1, 0, 1, 0, 1, 0, 1, 0, 1, 0, 1, 0, 1, 0, 1);
-        markAll(bundle, 0, 1, 2, 3, 4, 5, 6, 7, 8, 9);
-        Check.due("P12 ten side by side", bundle.surplus(), 9);
+        Check.due("P12 ten side by side", Graphs.markAll(Graphs.bundle()).surplus(), 9);
         TreeRanker one = new TreeRanker(1);
         one.mark(0);
         Check.due("P12 one point", one.surplus(), 0);
     }
 
     private static void refusalsChangeNothing() {
-        TreeRanker x = triangle();
-        markAll(x, 0, 2);
-        for (int line : WRONG_LINES) {
+        TreeRanker x = Graphs.triangle();
+        Graphs.mark(x, 0, 2);
+        for (int line : Wrong.LINES) {
             x.draw(line, 0, 1);
             x.cut(line);
             x.mark(line);
@@ -353,9 +321,9 @@ public final class PromiseTest {
     }
 
     private static void objectsAreApart() {
-        TreeRanker x = triangle();
+        TreeRanker x = Graphs.triangle();
         TreeRanker y = new TreeRanker(2);
-        markAll(y, 0);
+        Graphs.mark(y, 0);
         Check.due("other object's trees", y.trees(), 0);
         Check.due("this object's below", x.below(), 0);
         y.draw(0, 0, 1);
