@@ -1,31 +1,21 @@
-import java.io.IOException;
 import java.lang.reflect.Constructor;
 import java.lang.reflect.Field;
 import java.lang.reflect.Method;
 import java.lang.reflect.Modifier;
-import java.nio.file.Files;
-import java.nio.file.Path;
 import java.util.Set;
 import java.util.TreeSet;
-import java.util.regex.Pattern;
 
-/** The document's public face, and those rules of LANGUAGE.md that can be seen from outside or by a word. */
+/** The document's public face, and what LANGUAGE.md's rules 1, 2 and 5 say of members. */
 public final class FaceTest {
     private static final Set<String> FACE = Set.of(
             "int draw(int, int, int)", "int cut(int)", "int trees()", "int treesWith(int)",
             "int treesWithBoth(int, int)", "int tree(int)", "int mark(int)", "int rank()", "int below()",
             "int extensions()", "int surplus()");
-    private static final String[] WORDS_LEFT_OUT = {
-        "import", "package", "throw", "throws", "try", "catch", "synchronized", "assert", "instanceof", "null",
-        "float", "double", "String", "Math", "Integer", "System", "Arrays", "Object", "interface", "enum",
-        "record", "->", "::", "var"};
 
-    public static void main(String[] args) throws IOException {
+    public static void main(String[] args) {
         classAndConstructor();
         methods();
         fields();
-        arrays();
-        words();
         Check.end();
     }
 
@@ -74,29 +64,6 @@ public final class FaceTest {
             Check.due(field + " is final if it is an array", !type.isArray() || Modifier.isFinal(modifiers), true);
             Check.due(field + " is a constant if it is static",
                     !Modifier.isStatic(modifiers) || Modifier.isFinal(modifiers) && !type.isArray(), true);
-        }
-    }
-
-    private static String code() throws IOException {
-        String source = Files.readString(Path.of("src/main/java/TreeRanker.java"));
-        return source.replaceAll("(?s)/\\*.*?\\*/", " ").replaceAll("//[^\n]*", " ");
-    }
-
-    private static void arrays() throws IOException {
-        Pattern made = Pattern.compile(" *private final int\\[\\] \\w+ = new int\\[([A-Z_]+|[1-9][0-9]*)\\];");
-        for (String line : code().split("\n")) {
-            if (Pattern.compile("\\bnew\\b").matcher(line).find()) {
-                Check.due("array made as a field:" + line, made.matcher(line).matches(), true);
-            }
-        }
-    }
-
-    private static void words() throws IOException {
-        String code = code();
-        for (String word : WORDS_LEFT_OUT) {
-            String edge = Character.isLetter(word.charAt(0)) ? "\\b" : "";
-            boolean used = Pattern.compile(edge + Pattern.quote(word) + edge).matcher(code).find();
-            Check.due("use of " + word, used, false);
         }
     }
 }
